@@ -342,11 +342,11 @@ public final class EmptyLegs {
         }
 
         int dutyOn(int day) {
-            return isDay(day) ? duty[day] : NONE;
+            return day >= 0 && day < DAYS ? duty[day] : NONE;
         }
 
         int restOn(int day) {
-            return isDay(day) ? rest[day] : NONE;
+            return day >= 0 && day < DAYS ? rest[day] : NONE;
         }
 
         /** Reads the first n bytes as a text, to be enacted: 0, or its fault. */
@@ -720,7 +720,8 @@ public final class EmptyLegs {
         private final Ways ways;
         private final Storms storms;
         private final Law law;
-        private int plane;
+        private int seats;
+        private int turn;
         private int place;
         private int ended;
         private int dutyBegan;
@@ -733,13 +734,15 @@ public final class EmptyLegs {
             this.law = law;
         }
 
-        /** No move yet: then no duty has begun. */
+        /** No move of a plane yet: then no duty has begun. */
         void begin(int p) {
-            resume(p, planes.homeOf(p), 0, NONE);
+            seats = planes.seatsOf(p);
+            turn = planes.turnOf(p);
+            resume(planes.homeOf(p), 0, NONE);
         }
 
-        void resume(int p, int itsPlace, int itsEnded, int itsDutyBegan) {
-            plane = p;
+        /** Goes on with the same plane where an earlier chain of it stood. */
+        void resume(int itsPlace, int itsEnded, int itsDutyBegan) {
             place = itsPlace;
             ended = itsEnded;
             dutyBegan = itsDutyBegan;
@@ -759,7 +762,7 @@ public final class EmptyLegs {
 
         /** Adds a flight behind the others: the minutes of its empty leg; NONE if it doesn't fit. */
         int join(int f) {
-            if (!planes.has(plane) || planes.seatsOf(plane) < flights.seatsOf(f)) {
+            if (seats < flights.seatsOf(f)) {
                 return NONE;
             }
             int from = flights.fromOf(f);
@@ -767,7 +770,7 @@ public final class EmptyLegs {
             int leg = 0;
             if (place != from) {
                 leg = ways.minutes(place, from);
-                int arrival = start - planes.turnOf(plane);
+                int arrival = start - turn;
                 if (leg == 0 || !goes(from, arrival - leg, arrival)) {
                     return NONE;
                 }
@@ -781,7 +784,7 @@ public final class EmptyLegs {
             if (!isMinute(begin) || !isMinute(end)) {
                 return false;
             }
-            if (!first && begin < ended + planes.turnOf(plane)) {
+            if (!first && begin < ended + turn) {
                 return false;
             }
             if (storms.shuts(place, begin) || storms.shuts(to, end)) {
@@ -909,17 +912,17 @@ public final class EmptyLegs {
                 int bit = 1 << at;
                 long own = ownCost(at, p);
                 for (int ahead = 0; ahead < bit; ahead++) {
-                    keep(ahead + bit, costBehind(ahead, p, at, own));
+                    keep(ahead + bit, costBehind(ahead, at, own));
                 }
             }
         }
 
         /** What a chain costs that takes one more flight behind the others; it stands in chain then. */
-        private long costBehind(int ahead, int p, int at, long own) {
+        private long costBehind(int ahead, int at, long own) {
             if (cost[ahead] >= UNFIT) {
                 return UNFIT;
             }
-            chain.resume(p, place[ahead], ended[ahead], dutyBegan[ahead]);
+            chain.resume(place[ahead], ended[ahead], dutyBegan[ahead]);
             int leg = chain.join(lined[at]);
             return leg == NONE ? UNFIT : cost[ahead] + own + leg * EMPTY_WEIGHT;
         }
