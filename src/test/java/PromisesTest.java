@@ -184,6 +184,12 @@ public final class PromisesTest {
     due(5, "none is on it", x.way(7, 0, 0), true);
     due(5, "gone", x.flight(0, 7, 0, 1), -1);
     due(5, "gone back", x.flight(7, 0, 0, 1), -1);
+    EmptyLegs y = line();
+    y.flight(2, 1, 100, 1);
+    due(5, "the first flight is on it", y.way(1, 2, 0), false);
+    due(5, "refused, so it stays", y.look(0, 5), 60);
+    due(5, "one that ends at the same field", y.way(0, 1, 0), true);
+    due(5, "one that begins at the same field", y.way(2, 3, 0), true);
   }
 
   private static void plane() {
@@ -584,6 +590,39 @@ public final class PromisesTest {
     due(18, "once and for all", x.told(2, 0), 3);
   }
 
+  private static void toldBehindReplan() {
+    EmptyLegs x = line();
+    x.plane(0, 9, 30, 1);
+    x.flight(2, 1, 500, 5);
+    x.flight(0, 1, 900, 5);
+    x.plan();
+    x.offer(0, 0, 1, 100);
+    x.offer(0, 2, 1, 100);
+    x.take(1, 4);
+    x.replan();
+    due(18, "the same legs", x.told(0, 0), 0);
+    due(18, "the same legs", x.told(1, 0), 1);
+    x.storm(2, 470, 471);
+    due(18, "a storm changes no plan", x.told(0, 0), 0);
+    due(18, "one is moved", x.replan(), 1);
+    due(18, "its leg is gone", x.told(0, 0), 3);
+    due(18, "the other's too, as the plane is at home", x.told(1, 0), 3);
+    x.clock(101);
+    due(18, "broken, not lapsed", x.told(0, 0), 3);
+    EmptyLegs y = line();
+    y.plane(0, 9, 30, 1);
+    y.flight(2, 1, 500, 5);
+    y.plan();
+    y.offer(0, 0, 1, 100);
+    due(18, "one is held", y.offer(0, 0, 1, 100), -1);
+    y.plane(2, 9, 30, 1);
+    due(18, "on the other plane", y.plan(), 1);
+    due(18, "its leg is of one plane", y.told(0, 0), 3);
+    y.storm(2, 500, 501);
+    y.plan();
+    due(18, "none is there", y.offer(0, 0, 1, 100), -1);
+  }
+
   private static void bill() {
     EmptyLegs x = line();
     x.plane(0, 9, 30, 1000);
@@ -681,6 +720,7 @@ public final class PromisesTest {
     offer();
     take();
     told();
+    toldBehindReplan();
     bill();
     look();
     count();
