@@ -621,6 +621,8 @@ public final class EmptyLegs {
 
     /** The plan at hand: the plane of each flight, and the moves that follow from it. */
     private static final class Roster {
+        private static final int MOVES_MOST = 2 * Flights.LIVE_MOST;
+
         private final Planes planes;
         private final Flights flights;
         private final Ways ways;
@@ -708,7 +710,7 @@ public final class EmptyLegs {
 
         /** The flight whose empty leg is move i of a plane, or NONE. */
         int legAt(int p, int i) {
-            int f = i < 0 || i == Integer.MAX_VALUE ? NONE : flightAt(p, i + 1);
+            int f = isWithin(i, 0, MOVES_MOST - 1) ? flightAt(p, i + 1) : NONE;
             return hasLeg(f) ? f : NONE;
         }
     }
