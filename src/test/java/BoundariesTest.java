@@ -897,6 +897,15 @@ public final class BoundariesTest {
     due("one is moved, so that both are flown", x.replan(), 1);
     due("the one at hand", x.on(0), 1);
     due("the other", x.on(1), 0);
+    EmptyLegs y = desk(0, 1, 10, 0, 2, 600);
+    y.plane(0, 9, 0, 1);
+    for (int f = 0; f < 7; f++) y.flight(f % 2, 1 - f % 2, 100 + 10 * f, 1);
+    due("7 by one", y.plan(), 7);
+    y.plane(0, 1, 0, 1);
+    y.flight(0, 2, 100, 9);
+    due("all 7 are moved, so that one more is flown", y.replan(), 7);
+    due("8 are flown", y.count(3), 8);
+    due("the new one", y.on(7), 0);
   }
 
   private static void leastChangedFewestMoved() {
@@ -935,6 +944,24 @@ public final class BoundariesTest {
     full.storm(1, 0, 10080);
     due("all 8 are moved", full.replan(), 8);
     due("none is flown", full.count(3), 0);
+    mostEmptyMinutes();
+  }
+
+  /** Eight legs of 600 minutes are kept rather than one flight moved. */
+  private static void mostEmptyMinutes() {
+    EmptyLegs x = desk(0, 1, 10, 2, 3, 10, 1, 2, 600, 0, 3, 600, 0, 4, 600);
+    tell(x, 0, "d600;r0");
+    x.plane(4, 1, 0, 1);
+    for (int f = 0; f < 8; f++) x.flight(f % 2 * 2, f % 2 * 2 + 1, 600 + 610 * f, 1);
+    due("8 by one", x.plan(), 8);
+    due("8 legs of 600", x.count(4), 4800);
+    x.plane(0, 1, 0, 1);
+    x.plane(2, 1, 0, 1);
+    due("none is moved", x.replan(), 0);
+    due("8 legs of 600 yet", x.count(4), 4800);
+    due("the best", x.plan(), 8);
+    due("has 6 legs of 10", x.count(4), 60);
+    due("none is moved", x.replan(), 0);
   }
 
   private static void noneAtFirst() {
